@@ -806,9 +806,10 @@ public final class WideningCracks {
     /**
      * Heads and flows, as fractions over one lower number.
      *
-     * <p>There is a row of numbers for each joint: its own equation, or, where nothing is asked, head is 0. They are
-     * solved by determinants without dividing, so that sums that wrap on the way still end exact: the determinant is
-     * below 2^45, the upper numbers of heads are below 2^52, those of flows and the work below 2^61.
+     * <p>There is a row of numbers for each joint: what it gets is what it gives; or its head as held; or just 0, where
+     * it is dry or not there. They are solved by determinants without dividing, so that sums that wrap on the way still
+     * end exact: the determinant is below 2^45, the upper numbers of heads are below 2^52, those of flows and the work
+     * below 2^61.
      */
     private static final class Water {
         private static final int ALL = (1 << JOINTS) - 1;
@@ -820,6 +821,8 @@ public final class WideningCracks {
         final long[] flowUppers = new long[CRACKS];
         long lower = 1;
         int wet;
+        /** The joints with an equation: those that are wet and free. */
+        int balanced;
         int changesSeen = -1;
 
         Water(Rock rock) {
@@ -890,7 +893,9 @@ public final class WideningCracks {
                 return;
             }
             changesSeen = rock.changes;
-            wet = rock.reachedFrom(rock.heldOnes(), 1);
+            int heldOnes = rock.heldOnes();
+            wet = rock.reachedFrom(heldOnes, 1);
+            balanced = wet & ~heldOnes;
             writeRows();
             solveRows();
             reckonFlows();
@@ -899,7 +904,7 @@ public final class WideningCracks {
         private void writeRows() {
             for (int j = 0; j < JOINTS; j++) {
                 Arrays.fill(rows[j], 0);
-                if (!isFreeAndWet(j)) {
+                if ((balanced >> j & 1) == 0) {
                     rows[j][j] = 1;
                     rows[j][JOINTS] = rock.held[j] ? rock.heads[j] : 0;
                 }
@@ -912,14 +917,10 @@ public final class WideningCracks {
         }
 
         private void writeCrack(int joint, int other, int lets) {
-            if (isFreeAndWet(joint)) {
+            if ((balanced >> joint & 1) == 1) {
                 rows[joint][joint] += lets;
                 rows[joint][other] -= lets;
             }
-        }
-
-        private boolean isFreeAndWet(int joint) {
-            return (wet >> joint & 1) == 1 && !rock.held[joint];
         }
 
         /** Cramer's rule: minors over all sets of columns, the last column being what the equations come to. */
@@ -927,7 +928,7 @@ public final class WideningCracks {
             int allColumns = 2 * ALL + 1;
             minors[0] = 1;
             for (int columns = 1; columns < allColumns; columns++) {
-                minors[columns] = minorOf(columns);
+                minors[columns] = minorOf(columns, rows[Integer.bitCount(columns) - 1]);
             }
             // It is never below 1; the guard shows it to every division.
             lower = Math.max(1, minors[ALL]);
@@ -938,9 +939,8 @@ public final class WideningCracks {
             }
         }
 
-        /** The determinant of these columns and as many first rows, from those of one row less. */
-        private long minorOf(int columns) {
-            long[] row = rows[Integer.bitCount(columns) - 1];
+        /** The determinant of these columns and as many first rows, by the last of these rows. */
+        private long minorOf(int columns, long[] row) {
             long sum = 0;
             long sign = 1;
             for (int j = JOINTS; j >= 0; j--) {
