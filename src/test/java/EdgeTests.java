@@ -655,9 +655,29 @@ public final class EdgeTests {
             "widths(0, 2, 0, 1, 0); head(1, _) = 1/1; back(); head(1, _) = 2/3; free(2); head(1, _) = 0/1; hold(2, 60)",
             "rate(100); head(1, _) = 40/1; step(1) = 2; head(1, _) = 360/11; joint() = 3; head(1, _) = 360/11",
             "head(3, 0) = LOST");
+        headsBehindTwoCalls();
         greatestNumbers();
         test("Terms: two parts of THE ROCK apart", "joint() * 4; hold(0, 100); hold(3, 1); crack(0, 1, 0, 12, 1)",
             "crack(2, 3, 0, 1, 1); head(1, _) = 100/1; head(2, _) = 1/1; flow(0, _) = 0/1; flow(1, _) = 0/1");
+    }
+
+    /** Nothing is asked between the two calls, so that one must not hide from the heads what the other moved. */
+    private static void headsBehindTwoCalls() {
+        String chain = CHAIN + "rate(100); keep(); core(0, 2, 1); put(0, 0, 4); head(1, _) = 62/3;";
+        for (String calls : List.of(
+            "step(1) = 2; width(0, 11); head(1, _) = 61/2", "step(1) = 2; hold(0, 0); head(1, _) = 11/20",
+            "step(1) = 2; crack(0, 1, 0, 2, 1); head(1, _) = 61/2", "step(1) = 2; free(2); head(1, _) = 60/1",
+            "step(1) = 2; back(); head(1, _) = 62/3", "step(1) = 2; joint(); head(1, _) = 551/20",
+            "width(0, 4); hold(0, 0); head(1, _) = 1/2", "hold(0, 0); width(0, 4); head(1, _) = 1/2",
+            "width(0, 4); crack(0, 1, 0, 4, 1); head(1, _) = 121/3", "width(0, 4); free(2); head(1, _) = 60/1",
+            "width(0, 4); joint(); head(1, _) = 61/2", "width(0, 4); back(); head(1, _) = 62/3",
+            "crack(0, 1, 0, 2, 1); hold(0, 0); head(1, _) = 1/2", "crack(0, 1, 0, 2, 1); free(0); head(1, _) = 1/1",
+            "crack(0, 1, 0, 2, 1); joint(); head(1, _) = 61/2", "hold(0, 0); joint(); head(1, _) = 2/3",
+            "free(0); joint(); head(1, _) = 1/1", "hold(0, 0); free(2); head(1, _) = 0/1",
+            "widths(0, 2, 0, 1, 0) = 1; hold(0, 0); head(1, _) = 1/2",
+            "widths(0, 2, 0, 1, 0) = 1; joint(); head(1, _) = 61/2")) {
+            test("Terms: HEADS as they are, behind two calls", chain, calls);
+        }
     }
 
     /** Among the greatest numbers that fractions come to; reckoned apart from this program. */
