@@ -4,8 +4,11 @@ import java.lang.reflect.Method;
 import java.lang.reflect.Modifier;
 import java.nio.file.Files;
 import java.nio.file.Path;
+import java.util.List;
 import java.util.Set;
 import java.util.TreeSet;
+import java.util.regex.Matcher;
+import java.util.regex.Pattern;
 
 /** The public face is the document's and no more, and the file keeps out what LANGUAGE.md leaves out. */
 public final class FaceTests {
@@ -24,6 +27,9 @@ public final class FaceTests {
         "\\bthrow\\b", "\\bthrows\\b", "\\btry\\b", "\\bcatch\\b", "\\bsynchronized\\b", "\\bassert\\b", "->", "::", "@",
         "\\bpackage\\b", "Exact\\b", "\\bprotected\\b", "\\bdouble\\b", "\\bfloat\\b", "\\bimport (?!java\\.util\\.Arrays;)",
         "\\bSystem\\.(?!arraycopy\\()", "\\bMath\\.(?!(min|max|abs)\\()", "\\bArrays\\.(?!fill\\()", "\\[\\]\\[\\]\\["};
+
+    private static final Pattern METHOD = Pattern.compile("( {4}| {8})(?!if|for|while|switch|do|else| )\\S.*\\) \\{");
+    private static final int MOST_CLASSES = 12, MOST_FIELDS = 20, MOST_PARAMETERS = 7, MOST_LINES = 60;
 
     private static int wrong = 0;
 
@@ -93,10 +99,54 @@ public final class FaceTests {
         due("constructor's parameters", constructors[0].getParameterCount(), 0);
     }
 
+    /** Rules 5 and 11: static fields are final; how many parameters, fields and classes there are at most. */
+    private static void lookAtSizes() {
+        Class<?>[] insides = WideningCracks.class.getDeclaredClasses();
+        due("at most twelve classes", insides.length + 1 <= MOST_CLASSES, true);
+        lookAtSizeOf(WideningCracks.class);
+        for (Class<?> inside : insides) {
+            lookAtSizeOf(inside);
+        }
+    }
+
+    private static void lookAtSizeOf(Class<?> one) {
+        int fields = 0;
+        for (Field field : one.getDeclaredFields()) {
+            boolean isStatic = Modifier.isStatic(field.getModifiers());
+            due(field + " final, if static", !isStatic || Modifier.isFinal(field.getModifiers()), true);
+            fields += isStatic ? 0 : 1;
+        }
+        due("at most twenty fields of " + one, fields <= MOST_FIELDS, true);
+        for (Method method : one.getDeclaredMethods()) {
+            due("at most seven parameters of " + method, method.getParameterCount() <= MOST_PARAMETERS, true);
+        }
+        for (Constructor<?> constructor : one.getDeclaredConstructors()) {
+            due("at most seven parameters of " + constructor, constructor.getParameterCount() <= MOST_PARAMETERS, true);
+        }
+    }
+
+    /** Rule 11: methods stay short. A method begins at the depth of a class and ends with the next brace there. */
+    private static void lookAtLengths() throws Exception {
+        List<String> lines = Files.readAllLines(SOURCE);
+        int methods = 0;
+        for (int first = 0; first < lines.size(); first++) {
+            Matcher begins = METHOD.matcher(lines.get(first));
+            if (begins.matches()) {
+                methods++;
+                int last = first;
+                while (last < lines.size() && !lines.get(last).equals(begins.group(1) + "}")) {
+                    last++;
+                }
+                due("short: " + lines.get(first).trim(), last - first < MOST_LINES, true);
+            }
+        }
+        due("methods were found", methods > METHODS.length, true);
+    }
+
     private static void lookAtSource() throws Exception {
         String code = Files.readString(SOURCE).replaceAll("(?s)/\\*.*?\\*/", "").replaceAll("//.*", "");
         for (String word : LEFT_OUT) {
-            due(word + " in the code", java.util.regex.Pattern.compile(word).matcher(code).find(), false);
+            due(word + " in the code", Pattern.compile(word).matcher(code).find(), false);
         }
     }
 
@@ -104,6 +154,8 @@ public final class FaceTests {
         lookAtClass();
         lookAtMethods();
         lookAtFields();
+        lookAtSizes();
+        lookAtLengths();
         lookAtSource();
         System.out.println(wrong == 0 ? "the face is as due" : wrong + " things are not as due");
         if (wrong != 0) {

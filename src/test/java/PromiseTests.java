@@ -896,7 +896,32 @@ public final class PromiseTests {
         dueFault("p33 told", x, x.cell(0, 0, 0), 0, 0);
     }
 
+    /** The example of README.md, with the answers that it tells. */
+    private static void readme() {
+        WideningCracks rock = new WideningCracks();
+        int top = rock.joint();
+        int middle = rock.joint();
+        int bottom = rock.joint();
+        due("readme bottom", bottom, 2);
+        rock.hold(top, 60);
+        rock.hold(bottom, 0);
+        rock.crack(top, middle, 0, 2, 1);
+        rock.crack(middle, bottom, 1, 2, 1);
+        dueFraction("readme head", rock.head(middle, 0), rock.head(middle, 1), 20, 1);
+        due("readme flow", rock.flow(1, 0), 80);
+        due("readme eats", rock.eats(1), 800);
+        due("readme run", rock.run(3), 2);
+        due("readme about", rock.about(1, 3), 3);
+        rock.core(0, 2, 2);
+        rock.put(0, 0, 12);
+        rock.put(0, 1, 5);
+        due("readme widths", rock.widths(0, 2, 0, 2, 0), 2);
+        due("readme open", rock.open(), 5);
+        dueFault("readme as", rock, rock.as(0, 4), AS_CAST, 2);
+    }
+
     public static void main(String[] args) {
+        readme();
         p01NewObject();
         p02Joint();
         p03Hold();
